@@ -14,12 +14,8 @@ public final class SlipperDuke {
     private static final int WAY_HOURS = 16, MOST_UNDONE = 16, IMAGES = 2;
     private static final int MOST_ENTRIES = 15, MOST_WRITTEN = 9999;
 
-    private final int[] letters = new int[MOST_LETTERS];
-    private int letterCount;
-    private int faultAt = NONE;
-    private final Reader reader = new Reader();
+    private final Text text = new Text();
     private Palace plan = new Palace();
-    private Palace draft = new Palace();
     private final State now = new State();
     private final Past past = new Past();
     private final Image[] images = new Image[IMAGES];
@@ -42,24 +38,22 @@ public final class SlipperDuke {
         if (letter < 0 || letter > 255) {
             return OUTSIDE;
         }
-        if (letterCount >= MOST_LETTERS) {
+        if (text.length >= MOST_LETTERS) {
             return FULL;
         }
-        letters[letterCount] = letter;
-        letterCount++;
-        return letterCount;
+        text.add(letter);
+        return text.length;
     }
 
     public int palace() {
-        reader.read(letters, letterCount, draft);
-        letterCount = 0;
-        faultAt = reader.faultAt;
-        if (reader.faultNumber != 0) {
-            return -10 - reader.faultNumber;
+        text.read();
+        text.length = 0;
+        if (text.faultNumber != 0) {
+            return -10 - text.faultNumber;
         }
         Palace former = plan;
-        plan = draft;
-        draft = former;
+        plan = text.draft;
+        text.draft = former;
         now.begin(plan);
         past.forget();
         book.count = 0;
@@ -70,7 +64,7 @@ public final class SlipperDuke {
     }
 
     public int fault() {
-        return faultAt;
+        return text.faultAt;
     }
 
     public int told(int what) {
@@ -78,7 +72,7 @@ public final class SlipperDuke {
             case 0: return plan.rooms;
             case 1: return plan.doors;
             case 2: return plan.petitions;
-            case 3: return letterCount;
+            case 3: return text.length;
             case 4: return plan.stands ? now.slippers.rule : NONE;
             case 5: return now.hours;
             case 6: return plan.rooms > 0 ? now.slippers.at : NONE;
@@ -780,24 +774,28 @@ public final class SlipperDuke {
         }
     }
 
-    /** Reads a text into a palace up to its first fault. */
-    private static final class Reader {
+    /** Letters that came, read up to their first fault into a draft: a palace that stands is not touched by a fault. */
+    private static final class Text {
+        int length;
         int faultNumber;
-        int faultAt;
-        private int[] text;
-        private int length;
+        int faultAt = NONE;
+        Palace draft = new Palace();
+        private final int[] letters = new int[MOST_LETTERS];
         private int next;
         private int numberAt;
-        private Palace into;
 
-        void read(int[] letters, int count, Palace palaceToFill) {
-            text = letters;
-            length = Math.min(count, letters.length);
+        void add(int letter) {
+            if (length < MOST_LETTERS) {
+                letters[length] = letter;
+                length++;
+            }
+        }
+
+        void read() {
             next = 0;
             faultNumber = 0;
             faultAt = NONE;
-            into = palaceToFill;
-            into.clear();
+            draft.clear();
             skipBlanks();
             for (int clause = 0; clause < MOST_LETTERS && next < length && faultNumber == 0; clause++) {
                 readClause();
@@ -806,8 +804,8 @@ public final class SlipperDuke {
         }
 
         private void readClause() {
-            int word = text[next];
-            if (!into.stands && word != 's') {
+            int word = letters[next];
+            if (!draft.stands && word != 's') {
                 noteFault(1, next);
                 return;
             }
@@ -831,45 +829,45 @@ public final class SlipperDuke {
         }
 
         private void readRule() {
-            readWord(into.stands);
+            readWord(draft.stands);
             int rule = readNumber(RULES - 1);
             readEnd();
             if (faultNumber == 0) {
-                into.rule = rule;
-                into.stands = true;
+                draft.rule = rule;
+                draft.stands = true;
             }
         }
 
         private void readRoom() {
-            readWord(into.rooms >= MOST_ROOMS);
+            readWord(draft.rooms >= MOST_ROOMS);
             int noiseThere = readNumber(MOST_NOISE);
             int carpetThere = readNumber(1);
             readEnd();
             if (faultNumber == 0) {
-                into.addRoom(noiseThere, carpetThere);
+                draft.addRoom(noiseThere, carpetThere);
             }
         }
 
         private void readDoor() {
-            readWord(into.doors >= MOST_DOORS);
-            int a = readNumber(into.rooms - 1);
-            int b = readNumber(into.rooms - 1);
-            if (faultNumber == 0 && (a == b || into.hasDoor(a, b))) {
+            readWord(draft.doors >= MOST_DOORS);
+            int a = readNumber(draft.rooms - 1);
+            int b = readNumber(draft.rooms - 1);
+            if (faultNumber == 0 && (a == b || draft.hasDoor(a, b))) {
                 noteFault(4, numberAt);
             }
             readEnd();
             if (faultNumber == 0) {
-                into.addDoor(a, b);
+                draft.addDoor(a, b);
             }
         }
 
         private void readPetition() {
-            readWord(into.petitions >= MOST_PETITIONS);
-            int a = readNumber(into.rooms - 1);
+            readWord(draft.petitions >= MOST_PETITIONS);
+            int a = readNumber(draft.rooms - 1);
             int worthOfIt = readNumber(MOST_WORTH);
             readEnd();
             if (faultNumber == 0) {
-                into.addPetition(a, worthOfIt);
+                draft.addPetition(a, worthOfIt);
             }
         }
 
@@ -888,9 +886,9 @@ public final class SlipperDuke {
             skipBlanks();
             numberAt = next;
             int number = 0;
-            while (next < length && text[next] >= '0' && text[next] <= '9') {
+            while (next < length && letters[next] >= '0' && letters[next] <= '9') {
                 // Beyond three figures the number is a fault anyway, and must not run over.
-                number = next - numberAt < 3 ? number * 10 + text[next] - '0' : number;
+                number = next - numberAt < 3 ? number * 10 + letters[next] - '0' : number;
                 next++;
             }
             int figures = next - numberAt;
@@ -907,14 +905,14 @@ public final class SlipperDuke {
                 return;
             }
             skipBlanks();
-            if (next >= length || text[next] != ';') {
+            if (next >= length || letters[next] != ';') {
                 noteFault(1, next);
             }
             next++;
         }
 
         private void skipBlanks() {
-            while (next < length && text[next] == ' ') {
+            while (next < length && letters[next] == ' ') {
                 next++;
             }
         }

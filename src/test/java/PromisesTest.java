@@ -184,6 +184,30 @@ public final class PromisesTest {
         text("s1;r0 0;r0 0;d0 1;d1 0", -14, 21);
     }
 
+    /** A text ends where it ends, whatever letters a longer one had there before. */
+    private static void faultBehindALongerText() {
+        SlipperDuke x = made("s5;r1 0;");
+        fed(x, "s5");
+        due("palace() of 's5'", x.palace(), -11);
+        due("fault()", x.fault(), 2);
+        fed(x, "s");
+        due("palace() of 's'", x.palace(), -11);
+        due("fault()", x.fault(), 1);
+        fed(x, "s6;r7 1");
+        due("palace() of 's6;r7 1'", x.palace(), -11);
+        due("fault()", x.fault(), 7);
+        for (int i = 0; i < 240; i++) x.feed('5');
+        due("palace() of 240 figures", x.palace(), -11);
+        x = new SlipperDuke();
+        fed(x, "s");
+        for (int i = 1; i < 240; i++) x.feed('5');
+        due("palace() of a full text", x.palace(), -12);
+        fed(x, "s5");
+        for (int i = 2; i < 240; i++) x.feed(' ');
+        due("palace() of a full text that lacks its end", x.palace(), -11);
+        due("fault()", x.fault(), 240);
+    }
+
     private static void told() {
         SlipperDuke x = made(QUIET);
         int[] begin = {3, 2, 2, 0, 16, 0, 0, 0, 2, 0, 0, 0, 0, 0, 0, 0};
@@ -954,7 +978,7 @@ public final class PromisesTest {
         promise = 1; aNewObject();
         promise = 2; feed();
         promise = 3; palace(); palaceKeepsOrClears();
-        promise = 4; fault();
+        promise = 4; fault(); faultBehindALongerText();
         promise = 5; told();
         promise = 6; room();
         promise = 7; petition();
