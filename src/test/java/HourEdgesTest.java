@@ -146,6 +146,27 @@ public final class HourEdgesTest {
         due("told(12)", x.told(12), 19);
     }
 
+    /** 1683 times 594, and 297 more, are 999999: 512 calls do not lead so far, but the sentence is looked at all the same. */
+    private static void mostWorth() {
+        Edges.says("12 worth of all HEARD (each time; 999999 at most)");
+        SlipperDuke x = made("s0;r0 0;p0 99;p0 99;p0 99;p0 99;p0 99;p0 99;");
+        for (int i = 0; i < 1683; i++) {
+            x.hour(1);
+            for (int p = 0; p < 6; p++) x.chalk(p, 0);
+        }
+        due("told(12)", x.told(12), 999702);
+        x.hour(1);
+        due("told(12) with 594 more", x.told(12), 999999);
+        due("told(11): they are heard all the same", x.told(11), 63);
+        for (int i = 0; i < 4; i++) x.undo();
+        due("told(11): three are not heard", x.told(11), 56);
+        x.hour(1);
+        due("told(12) with 297 more", x.told(12), 999999);
+        x.chalk(0, 0);
+        x.hour(1);
+        due("told(12) with 99 more", x.told(12), 999999);
+    }
+
     private static void stays() {
         Edges.says("he stays, if there is none. WEAR is one more for each HOUR in which he went");
         SlipperDuke[] all = {made("s0;r0 0;r0 0;"), made("s0;r0 0;r0 0;d0 1;"), made("s0;r0 0;r0 0;d0 1;")};
@@ -461,6 +482,7 @@ public final class HourEdgesTest {
         worn();
         oftenFelt();
         heardOnce();
+        mostWorth();
         stays();
         leastOfLikeOnes();
         mostWear();

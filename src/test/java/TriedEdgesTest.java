@@ -459,6 +459,15 @@ public final class TriedEdgesTest {
         drawn(7, 0, 2, 4, 642666333);
         drawn(5, 2, 2, 6, 695785320);
         drawn(56, 2, 2, 9, 1116041079);
+        SlipperDuke loud = made(QUIET);
+        loud.seed(3);
+        loud.drift(1);
+        due("room(2, 0) from 3", loud.room(2, 0), 5);
+        due("told(9) from 3: no nail by it", loud.told(9), 0);
+        loud.seed(14);
+        loud.drift(1);
+        due("room(0, 0) from 14", loud.room(0, 0), 8);
+        due("told(9) from 14", loud.told(9), 0);
         drawn(1, 2, 6, 4, 377401575);
         drawn(8, 2, 0, 4, 1760618950);
         Edges.says("it becomes it times 1103515245 and 12345, left over by 2 to the 31");
