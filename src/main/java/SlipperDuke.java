@@ -303,8 +303,12 @@ public final class SlipperDuke {
         }
         int best = NONE;
         for (int set = 0; set < 1 << plan.rooms; set++) {
-            if (isBetterSet(set, best) && comesByCarpets(set, a, n)) {
-                best = set;
+            if (isBetterSet(set, best)) {
+                tried.copyFrom(now.slippers);
+                tried.carpetSet ^= set;
+                if (hoursUntil(a, n) != NONE) {
+                    best = set;
+                }
             }
         }
         return best;
@@ -597,12 +601,6 @@ public final class SlipperDuke {
         int count = Integer.bitCount(set);
         int bestCount = Integer.bitCount(best);
         return count < bestCount || count == bestCount && set < best;
-    }
-
-    private boolean comesByCarpets(int changed, int a, int n) {
-        tried.copyFrom(now.slippers);
-        tried.carpetSet ^= changed;
-        return hoursUntil(a, n) != NONE;
     }
 
     /** The doors through which a way from where he is may lead; a nail where he is keeps nobody from leaving. */
